@@ -863,8 +863,10 @@ public final class WinnerTeaches {
         int furthestArt(int teacher, int taught, int arts) {
             int chosen = NONE;
             int furthest = 0;
-            for (int art = 0; art < arts; art++) {
-                int above = skillOf(teacher, art) - skillOf(taught, art);
+            int t = Math.max(teacher, 0) * MOST_ARTS;
+            int p = Math.max(taught, 0) * MOST_ARTS;
+            for (int art = 0; art < arts && t + art < skills.length && p + art < skills.length; art++) {
+                int above = skills[t + art] - skills[p + art];
                 if (above > furthest) {
                     furthest = above;
                     chosen = art;
