@@ -910,7 +910,7 @@ public final class WinnerTeaches {
 
         final int[] code = new int[MOST_SIGNS];
         final int[] values = new int[MOST_SIGNS];
-        final char[] waiting = new char[MOST_SIGNS];
+        final int[] waiting = new int[MOST_SIGNS];
         final boolean[] compared = new boolean[MOST_DEPTH + 1];
         int length = 0;
         int waitingCount = 0;
@@ -1014,7 +1014,7 @@ public final class WinnerTeaches {
             return c >= 'a' && c <= 'd' || c == 's' || c == 'm' || c == 'l' || c == 'i' || c == 'p' || c == 'r';
         }
 
-        private static int rank(char c) {
+        private static int rank(int c) {
             switch (c) {
                 case '<':
                 case '>':
@@ -1040,7 +1040,7 @@ public final class WinnerTeaches {
             }
         }
 
-        private void hold(char c) {
+        private void hold(int c) {
             if (waitingCount < MOST_SIGNS) {
                 waiting[waitingCount] = c;
                 waitingCount++;
@@ -1065,21 +1065,21 @@ public final class WinnerTeaches {
             int height = 0;
             for (int i = 0; i < length; i++) {
                 int c = code[i];
-                int rank = c < SIGNS ? 0 : rank((char) (c - SIGNS));
+                int rank = c < SIGNS ? 0 : rank(c - SIGNS);
                 if (rank == 0 && height < MOST_SIGNS) {
-                    values[height] = c < SIGNS ? c : thing((char) (c - SIGNS), s, side, arts);
+                    values[height] = c < SIGNS ? c : thing(c - SIGNS, s, side, arts);
                     height++;
                 } else if (rank == 4 && height > 0) {
                     values[height - 1] = -values[height - 1];
                 } else if (height > 1) {
                     height--;
-                    values[height - 1] = joined((char) (c - SIGNS), values[height - 1], values[height]);
+                    values[height - 1] = joined(c - SIGNS, values[height - 1], values[height]);
                 }
             }
             return clamp(values[0], -MOST_POWER, MOST_POWER);
         }
 
-        private static int thing(char c, Standing s, int side, int arts) {
+        private static int thing(int c, Standing s, int side, int arts) {
             switch (c) {
                 case 's':
                     return s.sum(side, arts);
@@ -1098,7 +1098,7 @@ public final class WinnerTeaches {
             }
         }
 
-        private static int joined(char c, int a, int b) {
+        private static int joined(int c, int a, int b) {
             switch (c) {
                 case '<':
                     return a < b ? 1 : 0;

@@ -225,7 +225,10 @@ public final class GamesTest extends Checks {
         due("law stays", x.law(4, 10), 0);
         skills(5, 0, 2, 3, 0, 4);
         due("none", x.undo(), -1);
+        eachUndone();
+        fresh("50;23;04!");
         x.seed(12);
+        x.law(4, 10);
         x.play(0, 1, 0);
         x.seed(55);
         x.undo();
@@ -244,6 +247,29 @@ public final class GamesTest extends Checks {
         due("where the plan is stays", x.count(3), 1);
         points(1, 1, 0);
         due("thrown", x.of(2, 4), 0);
+    }
+
+    private static void eachUndone() {
+        fresh("50;23;04");
+        x.law(0, 2);
+        int[][] ahead = new int[45][];
+        for (int k = 0; k < ahead.length; k++) {
+            ahead[k] = all();
+            x.play(k % 3, (k + 1) % 3, k % 4);
+        }
+        for (int k = ahead.length - 1; k >= ahead.length - 20; k--) {
+            due("undo", x.undo(), k - ahead.length + 20);
+            due("as it was", java.util.Arrays.equals(all(), ahead[k]), true);
+        }
+        due("undo", x.undo(), -1);
+    }
+
+    private static int[] all() {
+        int[] all = new int[21];
+        for (int k = 0; k < all.length; k++) {
+            all[k] = k < 15 ? x.of(k / 5, k % 5) : x.skill((k - 15) / 2, k % 2);
+        }
+        return all;
     }
 
     private static void judged() {

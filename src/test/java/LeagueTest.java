@@ -96,6 +96,8 @@ public final class LeagueTest extends Checks {
         due("seen", x.count(5), 0);
         skills(7, 6);
         due("ill", x.of(1, 3), 1);
+        due("nothing is left", x.all(), 2);
+        row(14, 13, 1);
         due("w alone", league("w4"), 1);
         due("none", x.count(0), 0);
         due("ill is gone", league("1234;5670"), 2);
@@ -166,10 +168,10 @@ public final class LeagueTest extends Checks {
         value("a+b", 7);
         String[] bad = {"x", "a+", "a<b<c", "a=b>c", "(a", "(((((a", "1000", "a b", ")", "a)", "()", "+a", "*a", "a**b",
             "ab", "a1", "1a", "(a)(b)", "(a)1", "1(a)", "(a<b<c)", "a<(b<c)<d", "-", "(-", "e", "a<", "12-", "((((1)))",
-            "((((1)))))", "(((((", "A", "a\0", "1<2+(3<4)<5"};
+            "((((1)))))", "(((((", "A", "a\0", "1<2+(3<4)<5", "(1)2", "1+a2", "1000-1"};
         int[] at = {0, 2, 3, 3, 2, 4, 3, 1, 0, 1, 1, 0, 0, 2,
             1, 1, 1, 3, 3, 1, 4, 7, 1, 2, 0, 2, 3, 8,
-            9, 4, 0, 1, 9};
+            9, 4, 0, 1, 9, 3, 3, 3};
         for (int k = 0; k < bad.length; k++) {
             due(bad[k], rule(bad[k]), -1 - at[k]);
             due("count(7)", x.count(7), 0);
@@ -188,6 +190,15 @@ public final class LeagueTest extends Checks {
         due("none", rule(""), 0);
         due("power", x.of(1, 0), 10);
         due("count(4): undo stays", x.count(4), 2);
+        fresh("w3;000;716;352;427");
+        String[] letters = {"m", "l", "s", "a", "b", "c", "d", "i"};
+        int[][] of = {{0, 0, 0, 0, 0, 0, 0, 0}, {7, 1, 14, 7, 1, 6, 0, 1}, {5, 2, 10, 3, 5, 2, 0, 2}, {7, 2, 13, 4, 2, 7, 0, 3}};
+        for (int k = 0; k < letters.length; k++) {
+            due(letters[k], rule(letters[k]), 0);
+            for (int side = 0; side < 4; side++) {
+                due(letters[k], x.of(side, 0), of[side][k]);
+            }
+        }
     }
 
     private static int clamped(int v) {

@@ -159,6 +159,9 @@ public final class ShowsTest extends Checks {
         points(0, 0, 0);
         due("count(3)", x.count(3), 0);
         due("R stays", x.seed(1), 1);
+        x.law(0, 1);
+        due("laws", x.laws(1), 0);
+        due("the law stays", x.law(0, 1), 1);
         plan("0!-2");
         x.law(1, 3);
         due("laws", x.laws(1), 0);
