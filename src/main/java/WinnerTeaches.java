@@ -906,7 +906,8 @@ public final class WinnerTeaches {
         static final int MOST_POWER = 9999;
         // numbers are kept as they are (up to 999), all else from here on
         static final int SIGNS = 1000;
-        static final char NEGATE = '~';
+        // the - ahead of a thing: beyond 255, so that no sign of a text can be taken for it
+        static final int NEGATE = 256;
 
         final int[] code = new int[MOST_SIGNS];
         final int[] values = new int[MOST_SIGNS];

@@ -52,6 +52,41 @@ public final class LeagueTest extends Checks {
         leagueTexts();
         ruleTexts();
         planTexts();
+        everySign();
+    }
+
+    /** Each of the 256 signs behind a start, at each place where a text can go on in another way. */
+    private static void everySign() {
+        String digits = "0123456789";
+        String joins = "+-*/<>=";
+        String things = digits + "abcdsmlipr(-";
+        promise = 5;
+        fresh("w2;12;34;56");
+        String[] starts = {"", "-", "a+", "a*-", "a<", "(", "p", "(a)", "s-a", "a<b", "(a<b", "1", "12", "123", "((((", "((((a",
+            "(a<b)", "a/(b"};
+        String[] can = {things, things, things, things, things, things, joins, joins, joins, "+-*/", "+-*/)", joins + digits,
+            joins + digits, joins, digits + "abcdsmlipr-", joins + ")", joins, joins + ")"};
+        behindEach(starts, can);
+        promise = 4;
+        starts = new String[] {"", "w", "w3", "w1;", "1", "12", "12!", "12;", "w1;7", "w4;123", "w4;1234"};
+        can = new String[] {"w01234567", "1234", ";", "w01234567", "01234567", ";!", ";", "w01234567", ";!", "01234567",
+            ";!"};
+        behindEach(starts, can);
+        promise = 6;
+        starts = new String[] {"", "0", "0!", "0-", "0!-", "0-1", "0-1!", "0-1,", "0-1;"};
+        can = new String[] {"012", "-!", "-", "12", "12", ",;!", ",;", "2", "012"};
+        behindEach(starts, can);
+    }
+
+    private static void behindEach(String[] starts, String[] can) {
+        for (int k = 0; k < starts.length; k++) {
+            for (char c = 0; c < 256; c++) {
+                // X can stand nowhere: it tells whether the sign ahead of it could
+                String t = starts[k] + c + "X";
+                int at = starts[k].length() + (can[k].indexOf(c) >= 0 ? 1 : 0);
+                due(t, promise == 4 ? league(t) : promise == 5 ? rule(t) : plan(t), -1 - at);
+            }
+        }
     }
 
     private static void leagueTexts() {

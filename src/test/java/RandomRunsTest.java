@@ -346,7 +346,8 @@ public final class RandomRunsTest {
         int n = luck.nextInt(12);
         if (n == 0 && !t.isEmpty()) {
             int p = luck.nextInt(t.length());
-            return t.substring(0, p) + signs.charAt(luck.nextInt(signs.length())) + t.substring(p + 1);
+            char c = luck.nextInt(3) > 0 ? signs.charAt(luck.nextInt(signs.length())) : (char) luck.nextInt(256);
+            return t.substring(0, p) + c + t.substring(p + (luck.nextBoolean() ? 1 : 0));
         }
         if (n == 1 && !t.isEmpty()) {
             return t.substring(0, luck.nextInt(t.length()));
