@@ -108,6 +108,42 @@ public final class SearchesTest extends Checks {
         plan("0-1;0-2");
         due("behind a turn", x.soon(0, 0, 3), -2);
         due("behind a turn", x.soon(2, 0, 2), 1);
+        longSeasons();
+    }
+
+    /** Seven or eight sides, each with each, by what each does best: a STATE comes again late, or not in 2000 turns. */
+    private static void longSeasons() {
+        longSeason("w4;0462;3334;6263;2046;6046;0600;6462;0553", 3, 2);
+        promise = 25;
+        due("late", x.rest(), 11);
+        row(1984, 159);
+        promise = 26;
+        due("late", x.mean(0, 0), 0);
+        row(165, 32);
+        promise = 27;
+        due("late", x.soon(7, 3, 6), 14);
+        due("never", x.soon(7, 3, 7), -2);
+        longSeason("w3;703;523;767;066;560;505;205", 3, 1);
+        x.kings();
+        promise = 25;
+        due("too late", x.rest(), -3);
+        promise = 26;
+        due("too late", x.mean(0, 0), -3);
+        due("no such side", x.mean(7, 0), -1);
+        promise = 27;
+        due("found ahead of that", x.soon(1, 1, 5), 7);
+        due("too late", x.soon(1, 1, 6), -3);
+        due("others", x.soon(1, 1, 8), -1);
+        due("the row stays", x.count(6), 1);
+    }
+
+    private static void longSeason(String sides, int up, int even) {
+        fresh(sides);
+        rule("m*9-s");
+        x.law(1, up);
+        x.law(2, 0);
+        x.law(3, even);
+        x.circle();
     }
 
     private static void won(int side, int n, int k, long upper, long lower) {
