@@ -1,15 +1,47 @@
+import java.io.IOException;
+import java.nio.charset.StandardCharsets;
+import java.nio.file.Files;
+import java.nio.file.Paths;
 import java.util.NoSuchElementException;
 
 /** What the tests of the promises share: one object at a time, and what is due of it. */
 class Checks {
+    static final int TERMS = 0;
+
     static int wrong = 0;
     static int promise = 0;
+    static String sentence = "";
+    static String document = "";
     static WinnerTeaches x;
+
+    /** What follows tests these words of the document: they have to stand in its terms, or in that promise. */
+    static void says(int number, String words) {
+        promise = number;
+        sentence = words;
+        if (document.isEmpty()) {
+            document = read(System.getProperty("doc", "../shared/DOC.md"));
+        }
+        String head = number == TERMS ? "## Terms" : "## Promise " + number + ":";
+        int from = Math.max(0, document.indexOf(head));
+        int behind = document.indexOf("\n## ", from);
+        if (!document.substring(from, behind < 0 ? document.length() : behind).contains(words)) {
+            wrong++;
+            System.out.println("not in the document behind '" + head + "': " + words);
+        }
+    }
+
+    private static String read(String file) {
+        try {
+            return new String(Files.readAllBytes(Paths.get(file)), StandardCharsets.UTF_8);
+        } catch (IOException e) {
+            throw new IllegalStateException(file, e);
+        }
+    }
 
     static void due(String call, long got, long want) {
         if (got != want) {
             wrong++;
-            System.out.println("promise " + promise + ": " + call + " answered " + got + ", due is " + want);
+            System.out.println("promise " + promise + ", '" + sentence + "': " + call + " answered " + got + ", due is " + want);
         }
     }
 
