@@ -7,6 +7,7 @@ import java.util.NoSuchElementException;
 /** What the tests of the promises share: one object at a time, and what is due of it. */
 class Checks {
     static final int TERMS = 0;
+    static final int ABOVE_ALL = -1;
 
     static int wrong = 0;
     static int promise = 0;
@@ -14,14 +15,14 @@ class Checks {
     static String document = "";
     static WinnerTeaches x;
 
-    /** What follows tests these words of the document: they have to stand in its terms, or in that promise. */
+    /** What follows tests these words of the document: they have to stand at its head, in its terms, or in that promise. */
     static void says(int number, String words) {
         promise = number;
         sentence = words;
         if (document.isEmpty()) {
             document = read(System.getProperty("doc", "../shared/DOC.md"));
         }
-        String head = number == TERMS ? "## Terms" : "## Promise " + number + ":";
+        String head = number == ABOVE_ALL ? "## What it is" : number == TERMS ? "## Terms" : "## Promise " + number + ":";
         int from = Math.max(0, document.indexOf(head));
         int behind = document.indexOf("\n## ", from);
         if (!document.substring(from, behind < 0 ? document.length() : behind).contains(words)) {

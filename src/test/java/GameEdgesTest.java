@@ -553,9 +553,17 @@ public final class GameEdgesTest extends Checks {
         due("all of them -1", x.spread(), 0);
         row(0, 0);
 
+        fresh("w1;3;5");
+        rule("0-a");
+        due("all of them below 0", x.spread(), 2);
+        row(0, 1);
+        rule("a");
+        due("all of them above 0", x.spread(), 2);
+        row(1, 0);
+
         says(24, "0 without SIDES (the ROW is empty).");
         league("w1");
-        row(0, 0);
+        row(1, 0);
         due("no SIDES", x.spread(), 0);
         row();
         league("3");

@@ -98,6 +98,14 @@ public final class KeptEdgesTest extends Checks {
         x.seen(0, 2, 2);
         due("2 threw four", x.found(), 2 + 4 + 8 + 16 + 32);
         row(5, 2, 4);
+        fresh("w1;3;4;5");
+        x.seen(1, 0, 2);
+        due("0 and 1 threw one", x.found(), 1);
+        row(1, 0, 1);
+        x.seen(2, 1, 2);
+        x.seen(2, 0, 2);
+        due("each threw two", x.found(), 7);
+        row(3, 0, 2);
         fresh("w1;0;0;0;0;0;0;0;7");
         for (int k = 0; k < 12; k++) {
             x.seen(7, k % 7, 1);
@@ -131,6 +139,12 @@ public final class KeptEdgesTest extends Checks {
         x.undo();
         due("one GAME less", x.prize(), 0);
         row(1, 2);
+        fresh("w1;0;0;0;0;0;0;0;7");
+        due("eight SIDES", x.prize(), 0);
+        row(0, 0);
+        x.play(6, 7, 1);
+        due("the last of eight", x.prize(), 7);
+        row(1, 1);
     }
 
     private static void paid(int side, int n, int as, int otherwise) {
@@ -168,6 +182,14 @@ public final class KeptEdgesTest extends Checks {
         x.law(0, 1);
         paid(0, 2, 6, 6);
         x.law(0, 0);
+        fresh("w1;0;0;0;0;0;0;1;2");
+        plan("6-7");
+        paid(7, 2, 4, 6);
+        paid(6, 2, 1, 1);
+        x.ill(7, true);
+        paid(7, 2, 6, 4);
+        fresh("w1;2;1");
+        plan("0-1");
         paid(0, 2, 4, 6);
 
         says(39, "Nothing changes. NONE: others, no PLAN.");
@@ -350,15 +372,16 @@ public final class KeptEdgesTest extends Checks {
         says(43, "Refused: nothing kept, SIDES or ARTS were told since.");
         String[] texts = {"", "8", "x", "w9", "11", "w2", "w2;11", "w1"};
         for (String t : texts) {
-            fresh("50;23");
-            x.keep(1);
-            x.seen(0, 1, 0);
-            boolean told = league(t) > 0;
-            due("again behind " + t, x.again(1), !told);
-            due("nothing kept there", x.again(0), false);
-            x.keep(0);
-            due("kept since", x.again(0), true);
-            due("again behind " + t, x.again(1), !told);
+            for (int i = 0; i < 2; i++) {
+                fresh("50;23");
+                x.keep(i);
+                boolean told = league(t) > 0;
+                due("again behind " + t, x.again(i), !told);
+                due("nothing kept there", x.again(1 - i), false);
+                x.keep(1 - i);
+                due("kept since", x.again(1 - i), true);
+                due("again behind " + t, x.again(i), !told);
+            }
         }
         fresh("50;23");
         rule("a*9");
@@ -445,19 +468,20 @@ public final class KeptEdgesTest extends Checks {
     /** Two objects that were told the same are told apart by none of these calls. */
     private static List<Long> probes(WinnerTeaches t) {
         List<Long> all = new ArrayList<>();
-        Call[] calls = {c -> c.count(0), c -> c.count(1), c -> c.count(2), c -> c.count(3), c -> c.count(4), c -> c.count(5),
+        Call[] asked = {c -> c.count(0), c -> c.count(1), c -> c.count(2), c -> c.count(3), c -> c.count(4), c -> c.count(5),
             c -> c.count(6), c -> c.count(7), c -> c.count(8), c -> c.row(0), c -> c.row(1), c -> c.row(2), c -> c.rule(), c -> c.table(),
             c -> c.found(), c -> c.prize(), c -> c.law(0, 0), c -> c.law(1, 1), c -> c.law(2, 1), c -> c.law(3, 0), c -> c.law(4, 0),
-            c -> c.seed(3), c -> c.rest(), c -> c.all(), c -> c.undo(), c -> c.undo(), c -> c.undo(), c -> c.rounds(2),
-            c -> c.again(0) ? 1 : 0, c -> c.seed(4), c -> c.rounds(1), c -> c.again(1) ? 1 : 0, c -> c.seed(5), c -> c.count(3)};
-        for (Call call : calls) {
+            c -> c.seed(3), c -> c.rest(), c -> c.all()};
+        Call[] changed = {c -> c.count(4), c -> c.undo(), c -> c.undo(), c -> c.undo(), c -> c.rounds(2), c -> c.again(0) ? 1 : 0,
+            c -> c.seed(4), c -> c.rounds(1), c -> c.again(1) ? 1 : 0, c -> c.seed(5), c -> c.count(3)};
+        for (Call call : asked) {
             all.add(call.on(t));
-            for (int side = 0; side < 3; side++) {
-                for (int what = 0; what < 5; what++) {
-                    all.add((long) t.of(side, what));
-                }
-                all.add((long) t.skill(side, 0));
-                all.add((long) t.skill(side, 1));
+        }
+        for (Call call : changed) {
+            all.add(call.on(t));
+            for (int k = 0; k < 3 * 5; k++) {
+                all.add((long) t.of(k / 5, k % 5));
+                all.add((long) t.skill(k / 5, k % 5));
             }
         }
         return all;

@@ -18,6 +18,14 @@ public final class LeagueEdgesTest extends Checks {
     }
 
     private static void made() {
+        says(ABOVE_ALL, "An object is used for at most 512 calls after it has been made");
+        fresh("w1;7;0");
+        // five calls told that, one asks for POINTS
+        for (int k = 5; k < 511; k++) {
+            x.play(0, 1, 0);
+        }
+        due("the 512th call", x.of(0, 1), 7 * 3 + 506 - 7);
+
         says(1, "Two ARTS, no SIDES.");
         fresh("");
         int[] first = {0, 2, 0, 0, 0, 0, 0, 0, 0};

@@ -61,7 +61,6 @@ public final class LeagueTest extends Checks {
         String joins = "+-*/<>=";
         String things = digits + "abcdsmlipr(-";
         promise = 5;
-        fresh("w2;12;34;56");
         String[] starts = {"", "-", "a+", "a*-", "a<", "(", "p", "(a)", "s-a", "a<b", "(a<b", "1", "12", "123", "((((", "((((a",
             "(a<b)", "a/(b"};
         String[] can = {things, things, things, things, things, things, joins, joins, joins, "+-*/", "+-*/)", joins + digits,
@@ -81,6 +80,9 @@ public final class LeagueTest extends Checks {
     private static void behindEach(String[] starts, String[] can) {
         for (int k = 0; k < starts.length; k++) {
             for (char c = 0; c < 256; c++) {
+                if (c % 32 == 0) {
+                    fresh("w2;12;34;56");
+                }
                 // X can stand nowhere: it tells whether the sign ahead of it could
                 String t = starts[k] + c + "X";
                 int at = starts[k].length() + (can[k].indexOf(c) >= 0 ? 1 : 0);
@@ -200,6 +202,9 @@ public final class LeagueTest extends Checks {
                 value(texts[k], values[k]);
             }
         }
+        fresh("w3;111;253;777");
+        x.play(1, 0, 0);
+        x.play(1, 0, 0);
         value("a+b", 7);
         String[] bad = {"x", "a+", "a<b<c", "a=b>c", "(a", "(((((a", "1000", "a b", ")", "a)", "()", "+a", "*a", "a**b",
             "ab", "a1", "1a", "(a)(b)", "(a)1", "1(a)", "(a<b<c)", "a<(b<c)<d", "-", "(-", "e", "a<", "12-", "((((1)))",

@@ -1,7 +1,10 @@
 import java.util.NoSuchElementException;
 import java.util.Random;
 
-/** Long runs of calls, by a fixed seed, each answer and each ROW held against Oracle. */
+/**
+ * Long runs of calls, by a fixed seed, each answer and each ROW held against Oracle. What is asked to
+ * compare them makes more than 512 calls of a run: the class counts none of them, so they go on.
+ */
 public final class RandomRunsTest {
     private static final int CALLS = 500;
     private static int wrong = 0;

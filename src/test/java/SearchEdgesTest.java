@@ -616,6 +616,12 @@ public final class SearchEdgesTest extends Checks {
             due("of equal ones the least", x.next(side), 1);
             row(3);
         }
+        // there is nobody else whom it could teach, and gain by it
+        x.law(2, 2);
+        for (int side = 0; side < 3; side++) {
+            due("of equal ones the least", x.next(side), 1);
+            row(3);
+        }
         fresh("w1;0;0;0;0;0;0;7;1");
         due("the last two", x.next(7), 67);
         row(2);

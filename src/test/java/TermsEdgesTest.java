@@ -15,6 +15,7 @@ public final class TermsEdgesTest extends Checks {
         thePlan();
         planGoesOn();
         rowsAndFractions();
+        seasonsAndOrders();
         searches();
         finish();
     }
@@ -149,8 +150,22 @@ public final class TermsEdgesTest extends Checks {
             newSide(0, 0);
         }
         tellAll();
-        due("gone, though told wrongly behind it", league("w2;8"), -4);
+        due("nothing is gone by what is wrong behind it", league("w2;8"), -4);
         due("SIDES", x.count(0), 3);
+        league("w2;11;22");
+        plan("0-1");
+        x.seen(0, 1, 0);
+        due("a LINE without w", league("33"), 1);
+        due("THE PLAN stays", x.count(2), 1);
+        due("what was seen stays", x.count(5), 1);
+        // nothing of what was there is left in ARTS that are gone, and come again
+        league("w4;7777;7777");
+        league("w1;1;2");
+        due("STATES", x.all(), 2);
+        row(4, 3, 1);
+        league("w4;1111;1111");
+        due("STATES", x.all(), 1);
+        row(8, 8, 0);
 
         says(TERMS, "as many digits 0 .. 7 as there are ARTS, and perhaps ! (ILL).");
         for (int arts = 1; arts <= 4; arts++) {
@@ -301,6 +316,11 @@ public final class TermsEdgesTest extends Checks {
         wrongAt("1 1", 1);
         wrongAt("1a", 1);
         wrongAt("a1", 1);
+        wrongAt("1:", 1);
+        wrongAt("1/:", 2);
+        wrongAt(":", 0);
+        wrongAt("(1)2", 3);
+        wrongAt("12+(3)4", 6);
 
         says(TERMS, "an EXPRESSION in ( ) (at most 4 in one another)");
         ruled();
@@ -908,6 +928,49 @@ public final class TermsEdgesTest extends Checks {
         within("w3;426;013;065;634", 1, 1, 1, 7, true);
         within("w4;5553;5746;4500;0400", 0, 1, 1, 9, false);
         within("w4;0424;3715;1521;4742", 0, 3, 1, 8, true);
+    }
+
+    private static void seasonsAndOrders() {
+        says(TERMS, "---- seasons without end (by THE PLAN, from now, from its first ROUND on; without LUCK; POWER with POINTS and RAISED as "
+            + "they are now).");
+        fresh("w1;5;1");
+        rule("s+p*2");
+        plan("0!-1;0-1");
+        x.law(4, 50);
+        // with 3 POINTS more behind the first GAME 1 would win the second one too
+        due("POINTS as they are now", x.rest(), 4);
+        row(1, 10);
+        due("POINTS as they are now", x.soon(1, 0, 3), 2);
+        rule("s-r*9");
+        plan("0-1;0-1");
+        due("RAISED as it is now", x.rest(), 2);
+        row(1, 10);
+        due("RAISED as it is now", x.mean(1, 0), 0);
+        row(5, 1);
+        due("no DRAW", x.seed(1), 1);
+        fresh("w1;5;1;1");
+        plan("0-1;1-2");
+        x.rounds(1);
+        x.undo();
+        due("next", x.count(3), 1);
+        due("from its first ROUND on", x.soon(2, 0, 2), 1);
+        due("from its first ROUND on", x.rest(), 4);
+        row(1, 15);
+        due("next stays", x.count(3), 1);
+        x.rounds(3);
+        skills(5, 2, 2);
+        due("from now", x.rest(), 3);
+        row(1, 15);
+
+        says(TERMS, "---- orders of play (any GAMES of any two, thrown or not, one behind the other).");
+        fresh("w1;5;1;3");
+        rule("0-a");
+        due("thrown by who has more POWER", x.top(1, 0, 2), 1);
+        row(112);
+        due("thrown by who has more POWER", x.top(2, 0, 4), 1);
+        row(202);
+        due("one behind the other", x.top(1, 0, 4), 3);
+        row(112, 112, 201);
     }
 
     private static void lawFor(String sides, int sort, int up, int own) {
