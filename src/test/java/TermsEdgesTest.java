@@ -166,6 +166,9 @@ public final class TermsEdgesTest extends Checks {
         league("w4;1111;1111");
         due("STATES", x.all(), 1);
         row(8, 8, 0);
+        league("w4");
+        due("STATES", x.all(), 1);
+        row(0, 0, 0);
 
         says(TERMS, "as many digits 0 .. 7 as there are ARTS, and perhaps ! (ILL).");
         for (int arts = 1; arts <= 4; arts++) {
@@ -988,6 +991,7 @@ public final class TermsEdgesTest extends Checks {
         due("all", x.all(), all);
         due("top", x.top(0, 0, 0), all == -3 ? -3 : 0);
         due("quick", x.quick(0), all == -3 ? -3 : 0);
+        due("never", x.quick(Integer.MAX_VALUE), all == -3 ? -3 : -2);
         if (all == -3) {
             row(kept);
         } else {
