@@ -1370,7 +1370,8 @@ public final class WinnerTeaches {
             if (thrown != 0) {
                 return thrown == 1 ? OTHER_WINS : FIRST_WINS;
             }
-            return resultOf(power(s, one) - power(s, other));
+            // not by power(): calls go eight deep at most, with the library's counted
+            return resultOf(rule.value(s, one, arts) - rule.value(s, other, arts));
         }
 
         int resultOf(int more) {
@@ -1379,7 +1380,7 @@ public final class WinnerTeaches {
 
         /** In 100, that the first one wins by LUCK. */
         int chance(Standing s, int one, int other) {
-            return clamp(50 + law[EDGE] * (power(s, one) - power(s, other)), 0, 100);
+            return clamp(50 + law[EDGE] * (rule.value(s, one, arts) - rule.value(s, other, arts)), 0, 100);
         }
 
         int drawnResult(Standing s, int one, int other) {

@@ -7,7 +7,9 @@ import java.nio.file.Files;
 import java.nio.file.Paths;
 import java.util.Arrays;
 import java.util.HashSet;
+import java.util.Map;
 import java.util.Set;
+import java.util.TreeMap;
 import java.util.TreeSet;
 import java.util.regex.Matcher;
 import java.util.regex.Pattern;
@@ -103,6 +105,7 @@ public final class FaceTest {
             check(known.contains(library.group()), "in the source: " + library.group());
         }
         methods(code);
+        depths(code);
     }
 
     private static void methods(String code) {
@@ -117,5 +120,50 @@ public final class FaceTest {
             length++;
             check(length <= 60 || !line.matches(" {4}(    )?\\}"), "a long method: " + name);
         }
+    }
+
+    /** Calls go eight deep at most, those of the library counted, and none comes back to itself. */
+    private static void depths(String code) {
+        Map<String, Set<String>> calls = new TreeMap<>();
+        String inside = "WinnerTeaches";
+        String method = "";
+        for (String line : code.split("\n")) {
+            Matcher opens = Pattern.compile("^ {4}[a-z ]*class (\\w+) \\{").matcher(line);
+            Matcher begins = Pattern.compile("^ {4}(?: {4})?[\\w\\[\\] ]*?(\\w+)\\([^()]*\\)[\\w ]*\\{$").matcher(line);
+            if (opens.find()) {
+                inside = opens.group(1);
+            } else if (begins.find()) {
+                method = inside + "." + begins.group(1);
+                calls.putIfAbsent(method, new TreeSet<>());
+            } else if (!method.isEmpty()) {
+                Matcher call = Pattern.compile("(\\.)?\\b(\\w+)\\(").matcher(line);
+                while (call.find()) {
+                    calls.get(method).add((call.group(1) == null ? inside + "." : ".") + call.group(2));
+                }
+            }
+        }
+        check(calls.containsKey("Season.followGame") && calls.get("Season.followGame").contains(".settle"), "no calls were read");
+        for (String from : calls.keySet()) {
+            int deep = from.startsWith("WinnerTeaches.") ? depth(calls, from, 1) : 0;
+            check(deep <= 8, from + " goes " + deep + " deep");
+        }
+    }
+
+    /**
+     * A name behind a point may be of any class that has it, or of the library; one without a point is
+     * of the same class, or of the outer one.
+     */
+    private static int depth(Map<String, Set<String>> calls, String from, int above) {
+        int deepest = 1;
+        for (String call : above < 40 ? calls.get(from) : new TreeSet<String>()) {
+            String outside = calls.containsKey(call) ? call : "WinnerTeaches." + call.substring(call.indexOf('.') + 1);
+            for (String to : calls.keySet()) {
+                if (call.startsWith(".") ? to.endsWith(call) : to.equals(outside)) {
+                    deepest = Math.max(deepest, 1 + depth(calls, to, above + 1));
+                }
+            }
+            deepest = call.startsWith(".") ? Math.max(deepest, 2) : deepest;
+        }
+        return above < 40 ? deepest : 40;
     }
 }
